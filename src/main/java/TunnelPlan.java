@@ -1218,11 +1218,11 @@ public final class TunnelPlan {
             }
             int weaker = weakerOn(over, net.setup[tunnel]);
             int chosen = 0;
-            int least = Integer.MAX_VALUE;
+            int least = 0;
             for (int set = 1; set <= weaker; set++) {
                 if ((set & ~weaker) == 0) {
                     int cost = costOf(set);
-                    if (cost < least && relieves(set, over)) {
+                    if ((chosen == 0 || cost < least) && relieves(set, over)) {
                         least = cost;
                         chosen = set;
                     }

@@ -977,7 +977,10 @@ final class Model {
 
     void image() {
         imageState = s.copy();
-        imageActs = new ArrayList<>(acts);
+        imageActs = new ArrayList<>();
+        for (State a : acts) {
+            imageActs.add(a.copy());
+        }
         imageSeen = new ArrayList<>(seen);
     }
 

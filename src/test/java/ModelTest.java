@@ -37,27 +37,41 @@ public final class ModelTest {
     }
 
     static String randomText(Random r) {
-        int nodes = 2 + r.nextInt(r.nextInt(3) == 0 ? 7 : 4);
-        int links = r.nextInt(17);
-        int tunnels = r.nextInt(10);
+        int shape = r.nextInt(3);
+        int nodes = shape == 0 ? 2 + r.nextInt(7) : 3 + r.nextInt(r.nextInt(3) == 0 ? 6 : 3);
+        int links = shape == 0 ? r.nextInt(17) : 10 + r.nextInt(7);
+        int tunnels = shape == 0 ? r.nextInt(10) : 6 + r.nextInt(4);
         int metrics = r.nextInt(3) == 0 ? 99 : 1 + r.nextInt(3);
         int capacity = 2 + r.nextInt(30);
+        int asked = Math.max(1, shape == 0 ? capacity : capacity / 2);
         StringBuilder b = new StringBuilder();
         if (nodes != 2 || r.nextBoolean()) {
             b.append("nodes ").append(nodes).append(";\n");
         }
         for (int i = 0; i < links; i++) {
-            ends(b.append("link"), r, nodes).append(1 + r.nextInt(metrics)).append(' ').append(1 + r.nextInt(capacity));
-            if (r.nextInt(3) == 0) {
+            if (shape == 2) {
+                // A ladder: from each node to the next one or the one behind it, so ways are long and many.
+                int from = i % (nodes - 1);
+                b.append("link ").append(from).append(' ').append(Math.min(nodes - 1, from + 1 + r.nextInt(2))).append(' ');
+            } else {
+                ends(b.append("link"), r, nodes);
+            }
+            b.append(1 + r.nextInt(metrics)).append(' ').append(1 + r.nextInt(capacity));
+            if (r.nextInt(6) == 0) {
                 b.append(' ').append(r.nextInt(16));
             }
             b.append(r.nextBoolean() ? ";" : " ;\n");
         }
         for (int i = 0; i < tunnels; i++) {
             int setup = r.nextInt(8);
-            ends(b.append("tunnel"), r, nodes).append(1 + r.nextInt(Math.min(99, capacity))).append(' ');
-            b.append(setup).append(' ').append(r.nextInt(setup + 1));
-            if (r.nextInt(3) == 0) {
+            if (shape == 2 && r.nextBoolean()) {
+                b.append("tunnel 0 ").append(nodes - 1).append(' ');
+            } else {
+                ends(b.append("tunnel"), r, nodes);
+            }
+            b.append(1 + r.nextInt(asked)).append(' ').append(setup).append(' ');
+            b.append(r.nextBoolean() ? setup : r.nextInt(setup + 1));
+            if (r.nextInt(4) == 0) {
                 b.append(' ').append(r.nextBoolean() ? 0 : 1 << r.nextInt(4));
                 if (r.nextBoolean()) {
                     b.append(' ').append(1 + r.nextInt(7));
