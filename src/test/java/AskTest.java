@@ -120,6 +120,18 @@ public final class AskTest {
         CHECK.row("too much", i -> v.best(2, i), -1, -1);
     }
 
+    private static void longestWay() {
+        String text = "nodes 8;link 0 1 1 9;link 1 2 1 9;link 2 3 1 9;link 3 4 1 9;link 4 5 1 9;link 5 6 1 9;link 6 7 1 9;"
+                + "link 6 7 1 8;link 0 1 1 9;tunnel 0 7 1 5 5;tunnel 0 7 1 5 5 0 6;";
+        TunnelPlan x = Tape.plan(text);
+        CHECK.row("seven links", i -> x.best(0, i), 0, 1, 2, 3, 4, 5, 6, -1);
+        CHECK.row("six hops", i -> x.best(1, i), -1);
+        x.setUp(0);
+        CHECK.row("its way", i -> x.way(0, i), 0, 1, 2, 3, 4, 5, 6);
+        CHECK.noSuch("an eighth", () -> x.way(0, 7));
+        CHECK.row("it", i -> x.tunnel(0, i + 7), 1, 7, 7, 0);
+    }
+
     private static void bestCountsItsOwn() {
         TunnelPlan x = Tape.plan("link 0 1 1 5;link 0 1 1 4;tunnel 0 1 4 5 5;tunnel 0 1 1 5 5;");
         x.setUp(0);
@@ -154,6 +166,12 @@ public final class AskTest {
         x.setUp(1);
         x.setUp(2);
         CHECK.same("the fewest", x.pushes(3, 0), 4);
+        // Harm 3 of one (hold 5) is more than 1 and 1 of two.
+        TunnelPlan w = Tape.plan("link 0 1 1 8;tunnel 0 1 2 7 7;tunnel 0 1 2 7 7;tunnel 0 1 4 7 5;tunnel 0 1 4 0 0;");
+        w.setUp(0);
+        w.setUp(1);
+        w.setUp(2);
+        CHECK.same("the least harm, though they are two", w.pushes(3, 0), 3);
         TunnelPlan y = Tape.plan("link 0 1 1 9;tunnel 0 1 4 7 7;tunnel 0 1 3 7 7;tunnel 0 1 2 7 7;tunnel 0 1 3 0 0;tunnel 0 1 2 0 0;");
         y.setUp(0);
         y.setUp(1);
@@ -187,6 +205,7 @@ public final class AskTest {
         pools();
         tunnels();
         bestByRules();
+        longestWay();
         bestCountsItsOwn();
         pushes();
         whomToPush();

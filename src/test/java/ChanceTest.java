@@ -83,6 +83,25 @@ public final class ChanceTest {
         return Integer.bitCount(stood & ~on & ~y.count(3));
     }
 
+    /** With one link and one tunnel a draw of 3 fails or mends the link. */
+    private static void yearsOfOne() {
+        TunnelPlan x = Tape.plan("link 0 1 1 9;tunnel 0 1 4 1 1;");
+        for (int seed = 0; seed < 60; seed++) {
+            int s = seed;
+            boolean up = true;
+            boolean stands = false;
+            for (int year = 0; year < 7; year++) {
+                s = s * 1103515245 + 12345;
+                int kind = s >>> 16 & 3;
+                s = s * 1103515245 + 12345;
+                up = kind == 3 ? !up : up;
+                stands = kind < 2 ? up : kind == 2 ? false : stands && up;
+            }
+            int given = seed;
+            CHECK.row("years of " + seed, what -> x.years(given, 7, what), stands ? 1 : 0, 0, stands ? 4 : 0);
+        }
+    }
+
     private static void yearsOfNothing() {
         TunnelPlan x = new TunnelPlan();
         CHECK.row("no links, no tunnels", what -> x.years(7, 60, what), 0, 0, 0);
@@ -110,6 +129,7 @@ public final class ChanceTest {
         luck();
         onlyTheFirstEight();
         years();
+        yearsOfOne();
         yearsOfNothing();
         CHECK.end();
     }

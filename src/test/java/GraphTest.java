@@ -76,6 +76,8 @@ public final class GraphTest {
         CHECK.same("nothing back", x.flow(3, 0, 0), 0);
         x.fail(3);
         CHECK.same("by links that are up", x.flow(0, 3, 0), 5);
+        TunnelPlan y = Tape.plan("nodes 4;link 0 1 1 1;link 1 2 1 1;link 2 3 1 1;link 0 2 1 1;link 1 3 1 1;");
+        CHECK.same("one by one", y.flow(0, 3, 7), 2);
     }
 
     private static void distance() {

@@ -37,6 +37,29 @@ public final class ImageTest {
         CHECK.same("undone is", x.link(0, 5), 1);
     }
 
+    private static void whatCameSince() {
+        TunnelPlan x = Tape.plan("link 0 1 1 5;tunnel 0 1 5 3 3;");
+        x.resize(0, 2);
+        x.resize(0, 3);
+        x.see(0, 1, 6, 3, true);
+        x.image();
+        x.undo();
+        x.undo();
+        x.fail(0);
+        x.resize(0, 4);
+        x.setUp(0);
+        x.forget();
+        x.see(0, 1, 5, 3, true);
+        CHECK.yes("restored", x.restore());
+        CHECK.same("what was seen", x.other(1), 6);
+        CHECK.same("bandwidth", x.tunnel(0, 2), 3);
+        CHECK.same("undo", x.undo(), 1);
+        CHECK.same("bandwidth ahead of it", x.tunnel(0, 2), 2);
+        CHECK.same("undo", x.undo(), 0);
+        CHECK.same("bandwidth at first", x.tunnel(0, 2), 5);
+        CHECK.same("the link is up", x.count(4), 1);
+    }
+
     private static void inPlaceOfAnother() {
         TunnelPlan x = Tape.plan("link 0 1 1 5;tunnel 0 1 5 3 3;");
         x.image();
@@ -83,6 +106,7 @@ public final class ImageTest {
 
     public static void main(String[] args) {
         restoring();
+        whatCameSince();
         inPlaceOfAnother();
         fortyActs();
         tapeIsNotInIt();

@@ -31,6 +31,8 @@ public final class PlanTest {
         x.resize(2, 2);
         x.resize(1, 3);
         CHECK.row("two on one link", t -> x.planned(t, 0), 1, 2, 2, 0);
+        TunnelPlan z = Tape.plan("link 0 1 1 5;tunnel 0 1 5 7 0;tunnel 0 1 5 6 6;");
+        CHECK.row("setup ahead of hold", t -> z.planned(t, 0), -1, 0);
         // A stronger setup with a weaker hold: nobody is pushed out for it, or by it, by pools at 7.
         TunnelPlan y = Tape.plan("link 0 1 1 5;tunnel 0 1 5 3 3;tunnel 0 1 5 2 2;tunnel 0 1 1 7 0;");
         CHECK.row("none pushed out", t -> y.planned(t, 0), -1, 0, -1);

@@ -48,6 +48,27 @@ public final class TextTest {
         CHECK.same("status stays", x.count(14), 1);
     }
 
+    /** What stands on the tape behind the first n bytes is nothing to the text. */
+    private static void cutShort() {
+        TunnelPlan x = new TunnelPlan();
+        for (int i = 0; i < 34; i++) {
+            x.feed(0x20202020, 0x20202020, 0x20202020, 0x20202020, 0x20202020);
+        }
+        // 'nodes 45678;' up to the 5.
+        x.feed(0x20202020, 0x20206e6f, 0x64657320, 0x34353637, 0x383b2020);
+        CHECK.same("the number ends with the text", x.network(693), 1);
+        CHECK.same("there it ends too soon", x.fault(), 693);
+        for (int i = 0; i < 35; i++) {
+            x.feed(0x39393939, 0x39393939, 0x39393939, 0x39393939, 0x39393939);
+        }
+        CHECK.same("700 digits", x.network(700), 1);
+        for (int i = 0; i < 35; i++) {
+            x.feed(0x6c6c6c6c, 0x6c6c6c6c, 0x6c6c6c6c, 0x6c6c6c6c, 0x6c6c6c6c);
+        }
+        CHECK.same("a word of 700 letters", x.network(700), 1);
+        CHECK.same("at its beginning", x.fault(), 0);
+    }
+
     private static void allAnew() {
         TunnelPlan x = Tape.plan("link 0 1 1 5;tunnel 0 1 3 2 2;");
         x.setUp(0);
@@ -171,6 +192,7 @@ public final class TextTest {
         newObject();
         feeding();
         lengths();
+        cutShort();
         allAnew();
         goodTexts();
         tokensThatCantStand();
