@@ -689,14 +689,14 @@ public final class TunnelPlan {
             return accept(least);
         }
 
-        /** However great a node's number is, it is a node that there isn't, ahead of having too many digits. */
+        /** Of one token the least fault counts, so too many digits come ahead of a node that there isn't. */
         private int node(int nodes, int not) {
             if (kind != NUMBER) {
                 flag(1);
-            } else if (value >= nodes) {
-                flag(3);
             } else if (end - start > MOST_DIGITS) {
                 flag(2);
+            } else if (value >= nodes) {
+                flag(3);
             } else if (value == not) {
                 flag(4);
             }

@@ -161,18 +161,18 @@ final class Model {
         if (!isNumber()) {
             refuse(1);
         }
-        java.math.BigInteger v = new java.math.BigInteger(token());
-        if (v.compareTo(java.math.BigInteger.valueOf(draftNodes)) >= 0) {
-            refuse(3);
-        }
         if (token().length() > 4) {
             refuse(2);
         }
-        if (v.intValue() == not) {
+        int v = Integer.parseInt(token());
+        if (v >= draftNodes) {
+            refuse(3);
+        }
+        if (v == not) {
             refuse(4);
         }
         at++;
-        return v.intValue();
+        return v;
     }
 
     private void word(String w) throws Refusal {

@@ -177,15 +177,26 @@ public final class TextTest {
         bad("link 0 9999 1 1;", 3, 7);
         bad("nodes 8;link 0 8 1 1;", 3, 15);
         bad("tunnel 0 2 1 1 1;", 3, 9);
-        bad("tunnel 12345 2 1 1 1;", 3, 7);
-        bad("link 0 99999999999999999999 1 1;", 3, 7);
-        bad("link 00000 1 1 1;", 2, 5);
-        bad("link 0 00001 1 1;", 2, 7);
-        bad("link 0 00000 1 1;", 2, 7);
         bad("link 0 0 1 1;", 4, 7);
         bad("link 1 0001 1 1;", 4, 7);
         bad("tunnel 1 1 1 1 1;", 4, 9);
         bad("link 0 1 1 1;link 5 5 x", 3, 18);
+    }
+
+    /** A node of too many digits is too much, whether there is such a node, none, or the other one again. */
+    private static void leastFaultOfOneToken() {
+        bad("link 10000", 2, 5);
+        bad("link 0 10000", 2, 7);
+        bad("link 0 10000 1 1;", 2, 7);
+        bad("tunnel 12345 2 1 1 1;", 2, 7);
+        bad("tunnel 1 00002 1 1 1;", 2, 9);
+        bad("link 0 99999999999999999999 1 1;", 2, 7);
+        bad("link 00000 1 1 1;", 2, 5);
+        bad("link 0 00001 1 1;", 2, 7);
+        bad("link 0 00000 1 1;", 2, 7);
+        bad("link 9999", 3, 5);
+        bad("link 1000 10000", 3, 5);
+        bad("link 2 2 1 1;", 3, 5);
     }
 
     public static void main(String[] args) {
@@ -198,6 +209,7 @@ public final class TextTest {
         tokensThatCantStand();
         tooMuch();
         nodes();
+        leastFaultOfOneToken();
         CHECK.end();
     }
 }
