@@ -12,11 +12,18 @@ final class Tape {
         return numbers;
     }
 
-    static int load(TunnelPlan x, String text) {
+    /** Feeds the text, and bytes 0 up to the next twenty: what the last feed answered. */
+    static int feed(TunnelPlan x, String text) {
         int[] n = numbers(text);
+        int last = 0;
         for (int i = 0; i < n.length; i += 5) {
-            x.feed(n[i], n[i + 1], n[i + 2], n[i + 3], n[i + 4]);
+            last = x.feed(n[i], n[i + 1], n[i + 2], n[i + 3], n[i + 4]);
         }
+        return last;
+    }
+
+    static int load(TunnelPlan x, String text) {
+        feed(x, text);
         return x.network(text.length());
     }
 
