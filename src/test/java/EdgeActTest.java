@@ -415,7 +415,7 @@ public final class EdgeActTest {
         CHECK.row("they stay", k -> x.count(14 + k), 3, 5, 7);
     }
 
-    /** The 512th call is answered as any other: five of feeding and asking, 507 acts. */
+    /** The 512th call is answered as any other. */
     private static void fiveHundredAndTwelveCalls() {
         TunnelPlan x = new TunnelPlan();
         Tape.feed(x, "link 0 1 1 99;tunnel");

@@ -65,6 +65,7 @@ public final class EdgeAskTest {
         }
         TunnelPlan y = standing("link 0 1 1 3;tunnel 0 1 2 1 1;", 0);
         CHECK.same("2 of 3", y.count(8), 66);
+        CHECK.same("1 of 1", standing("link 0 1 1 1;tunnel 0 1 1 1 1;", 0).count(8), 100);
         // 1 of 3 and 33 of 98 (33.67) are alike as cut down: the least link.
         TunnelPlan z = standing("link 0 1 1 3;link 1 0 1 98;tunnel 0 1 1 1 1;tunnel 1 0 33 1 1;tunnel 1 0 1 1 1;", 0, 1);
         CHECK.row("33 and 33", i -> z.count(7 + i), 0, 33);
@@ -220,6 +221,72 @@ public final class EdgeAskTest {
         CHECK.noSuch("node -1", () -> x.flow(0, -1, 8));
     }
 
+    /** MOST FLOW is as much as the least that cuts one off from the other one: all sets of nodes tried out. */
+    private static void flowIsTheLeastCut() {
+        int s = 4711;
+        for (int run = 0; run < 300; run++) {
+            int nodes = 3 + run % 6;
+            int links = 5 + run % 12;
+            int[] ends = new int[2 * links];
+            int[] capacity = new int[links];
+            StringBuilder b = new StringBuilder("nodes ").append(nodes).append(';');
+            for (int i = 0; i < links; i++) {
+                s = s * 1103515245 + 12345;
+                ends[2 * i] = (s >>> 16) % nodes;
+                ends[2 * i + 1] = (ends[2 * i] + 1 + (s >>> 8 & 255) % (nodes - 1)) % nodes;
+                capacity[i] = 1 + (s >>> 24 & 7);
+                b.append("link ").append(ends[2 * i]).append(' ').append(ends[2 * i + 1]).append(" 1 ").append(capacity[i]).append(';');
+            }
+            TunnelPlan x = Tape.plan(b.toString());
+            for (int from = 0; from < nodes; from++) {
+                for (int to = 0; to < nodes; to++) {
+                    if (from != to) {
+                        CHECK.same("from " + from + " to " + to + " of " + b, x.flow(from, to, 7), leastCut(from, to, nodes, ends, capacity));
+                    }
+                }
+            }
+        }
+    }
+
+    private static int leastCut(int from, int to, int nodes, int[] ends, int[] capacity) {
+        int least = Integer.MAX_VALUE;
+        for (int set = 0; set < 1 << nodes; set++) {
+            if ((set >> from & 1) == 1 && (set >> to & 1) == 0) {
+                int sum = 0;
+                for (int i = 0; i < capacity.length; i++) {
+                    sum += (set >> ends[2 * i] & 1) == 1 && (set >> ends[2 * i + 1] & 1) == 0 ? capacity[i] : 0;
+                }
+                least = Math.min(least, sum);
+            }
+        }
+        return least;
+    }
+
+    /** Seven links in a row, from any node to any other one, the nodes in any turn. */
+    private static void widestOverEachNode() {
+        for (int turn = 0; turn < 8; turn++) {
+            for (int step : new int[] {1, 3, 5, 7}) {
+                StringBuilder b = new StringBuilder("nodes 8;");
+                for (int i = 0; i < 7; i++) {
+                    b.append("link ").append((turn + i * step) % 8).append(' ').append((turn + (i + 1) * step) % 8).append(" 3 ").append(20 - i).append(';');
+                }
+                TunnelPlan x = Tape.plan(b.toString());
+                for (int i = 0; i < 8; i++) {
+                    for (int k = 0; k < 8; k++) {
+                        if (i != k) {
+                            int from = (turn + i * step) % 8;
+                            int to = (turn + k * step) % 8;
+                            CHECK.same("widest " + b, x.widest(from, to, 0), k < i ? 0 : 21 - k);
+                            CHECK.same("flow " + b, x.flow(from, to, 0), k < i ? 0 : 21 - k);
+                            CHECK.same("distance " + b, x.distance(from, to), k < i ? -1 : 3 * (k - i));
+                            CHECK.same("cuts " + b, x.cuts(from, to), k < i ? 0 : (1 << k) - (1 << i));
+                        }
+                    }
+                }
+            }
+        }
+    }
+
     private static void distance() {
         for (int from = 0; from <= 7; from++) {
             for (int to = 0; to <= 7; to++) {
@@ -271,6 +338,15 @@ public final class EdgeAskTest {
         CHECK.same("whatever it has", x.apart(0), 11);
         x.fail(2);
         CHECK.same("not up", x.apart(0), -1);
+        // Not the two of like length (14), but the shortest and the longest one (13), whichever is looked at first.
+        for (int turn = 0; turn < 6; turn++) {
+            String[] six = {"link 0 1 1 1;", "link 1 2 1 1;", "link 2 3 1 1;", "link 1 3 6 1;", "link 0 2 6 1;", "link 0 3 10 1;"};
+            StringBuilder b = new StringBuilder("nodes 4;");
+            for (int i = 0; i < 6; i++) {
+                b.append(six[(turn + i) % 6]);
+            }
+            CHECK.same("the shortest and the longest " + turn, Tape.plan(b + "tunnel 0 3 1 1 1;").apart(0), 13);
+        }
         // Seven links and one: with seven hops alone.
         CHECK.same("seven hops", Tape.plan(CHAIN + "link 0 7 99 1;tunnel 0 7 1 1 1;").apart(0), 792);
         CHECK.same("six hops", Tape.plan(CHAIN + "link 0 7 99 1;tunnel 0 7 1 1 1 0 6;").apart(0), -1);
@@ -335,6 +411,8 @@ public final class EdgeAskTest {
         pushes();
         widest();
         flow();
+        flowIsTheLeastCut();
+        widestOverEachNode();
         distance();
         cuts();
         apart();

@@ -183,6 +183,23 @@ public final class EdgeChanceTest {
         CHECK.row("neither", z::other, 0, -1, 0);
     }
 
+    /** A way of seven links: each of them may be the one that is too narrow. */
+    private static void sevenHops() {
+        for (int narrow = 0; narrow < 7; narrow++) {
+            StringBuilder b = new StringBuilder("nodes 8;");
+            for (int i = 0; i < 7; i++) {
+                b.append("link ").append(i).append(' ').append(i + 1).append(i == narrow ? " 1 4;" : " 1 9;");
+            }
+            TunnelPlan x = Tape.plan(b.toString());
+            x.see(0, 7, 5, 0, true);
+            CHECK.row("link " + narrow, x::other, 16, 100 * narrow + 5, 0);
+            x.forget();
+            x.see(0, 7, 5, 0, false);
+            // It may be 1 to 3, each of the others 1 to 20, but for what it has.
+            CHECK.row("not link " + narrow, x::other, 3 + 6 * 19, 1, 1);
+        }
+    }
+
     /** A link that isn't UP helps none, and harms none. */
     private static void ofLinksThatArentUp() {
         TunnelPlan x = Tape.plan("link 0 1 1 5;link 1 0 1 5;");
@@ -272,8 +289,21 @@ public final class EdgeChanceTest {
         return seeds;
     }
 
+    private static TunnelPlan inAChain(int state) {
+        TunnelPlan x = Tape.plan("link 0 1 1 5;link 0 1 2 5;link 0 1 3 5;tunnel 0 1 5 3 3;tunnel 0 1 5 6 6;tunnel 0 1 5 1 1;");
+        x.setUp(0);
+        x.setUp(1);
+        if (state > 0) {
+            x.setUp(2);
+        }
+        if (state > 1) {
+            x.fail(2);
+        }
+        return x;
+    }
+
     /** One year from a state in which each draw's outcome is known: by[draw of 4][draw of three], how many stand and are pushed out. */
-    private static void oneYear(String what, TunnelPlan x, int[][] stand, int[][] pushed) {
+    private static void oneYear(int state, int[][] stand, int[][] pushed) {
         int[] seen = new int[12];
         for (int seed : seeds()) {
             int first = next(seed);
@@ -281,7 +311,8 @@ public final class EdgeChanceTest {
             int kind = drawn(first, 4);
             int which = drawn(second, 3);
             seen[kind * 3 + which]++;
-            CHECK.row(what + ", year 1 of " + seed, k -> x.years(seed, 1, k), stand[kind][which], pushed[kind][which], 5 * stand[kind][which]);
+            TunnelPlan x = inAChain(state);
+            CHECK.row("year 1 of " + seed + " from " + state, k -> x.years(seed, 1, k), stand[kind][which], pushed[kind][which], 5 * stand[kind][which]);
         }
         for (int many : seen) {
             CHECK.yes("each outcome was drawn", many > 0);
@@ -289,20 +320,22 @@ public final class EdgeChanceTest {
     }
 
     private static void eachOutcome() {
-        String chain = "link 0 1 1 5;link 0 1 2 5;link 0 1 3 5;tunnel 0 1 5 3 3;tunnel 0 1 5 6 6;tunnel 0 1 5 1 1;";
-        TunnelPlan x = Tape.plan(chain);
-        x.setUp(0);
-        x.setUp(1);
         // 0 on link 0, 1 on link 1, link 2 free: 2 pushes out 0, who pushes out 1.
-        oneYear("two stand", x, new int[][] {{2, 2, 3}, {2, 2, 3}, {1, 1, 2}, {2, 2, 2}}, new int[][] {{0, 0, 2}, {0, 0, 2}, {0, 0, 0}, {1, 0, 0}});
-        x.setUp(2);
+        oneYear(0, new int[][] {{2, 2, 3}, {2, 2, 3}, {1, 1, 2}, {2, 2, 2}}, new int[][] {{0, 0, 2}, {0, 0, 2}, {0, 0, 0}, {1, 0, 0}});
         // 2 on link 0, 0 on link 1, 1 on link 2: by link 0 both others are pushed out, by link 1 the last one.
-        oneYear("three stand", x, new int[][] {{3, 3, 3}, {3, 3, 3}, {2, 2, 2}, {2, 2, 2}}, new int[][] {{0, 0, 0}, {0, 0, 0}, {0, 0, 0}, {2, 1, 0}});
-        x.fail(2);
+        oneYear(1, new int[][] {{3, 3, 3}, {3, 3, 3}, {2, 2, 2}, {2, 2, 2}}, new int[][] {{0, 0, 0}, {0, 0, 0}, {0, 0, 0}, {2, 1, 0}});
         // 1 stands no more, and has no best way; link 2 is mended, and nobody comes back by that.
-        oneYear("link 2 isn't up", x, new int[][] {{2, 2, 2}, {2, 2, 2}, {1, 2, 1}, {1, 1, 2}}, new int[][] {{0, 0, 0}, {0, 0, 0}, {0, 0, 0}, {1, 0, 0}});
-        CHECK.row("all as ever behind it", i -> x.count(3 + i), 5, 3, 10, 3);
-        CHECK.row("acts, seen", i -> x.count(11 + i), 4, 0);
+        oneYear(2, new int[][] {{2, 2, 2}, {2, 2, 2}, {1, 2, 1}, {1, 1, 2}}, new int[][] {{0, 0, 0}, {0, 0, 0}, {0, 0, 0}, {1, 0, 0}});
+    }
+
+    private static void allAsEverBehindIt() {
+        TunnelPlan x = inAChain(2);
+        x.see(0, 1, 1, 1, true);
+        for (int seed = 0; seed < 40; seed++) {
+            x.years(seed, 60, 0);
+            CHECK.row("behind the years of " + seed, i -> x.count(3 + i), 5, 3, 10, 3);
+        }
+        CHECK.row("acts, seen", i -> x.count(11 + i), 4, 1);
         CHECK.row("nothing refused", i -> x.count(14 + i), 0, 0, 0);
     }
 
@@ -371,11 +404,13 @@ public final class EdgeChanceTest {
         bySoMuch();
         byHowItIsSeen();
         byOneLinkAlone();
+        sevenHops();
         ofLinksThatArentUp();
         byTenths();
         theFirstEight();
         anyWay();
         eachOutcome();
+        allAsEverBehindIt();
         yearByYear();
         howManyYears();
         withoutAny();

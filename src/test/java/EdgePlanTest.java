@@ -60,7 +60,8 @@ public final class EdgePlanTest {
         CHECK.row("3 and 2 of 5", t -> x.planned(t, 0), 0, -1, 0);
         // 1 has the stronger SETUP with a weak HOLD, or a weak one with the strongest HOLD: either is behind 0.
         CHECK.row("SETUP alone", t -> Tape.plan("link 0 1 1 5;tunnel 0 1 3 1 1;tunnel 0 1 3 2 0;").planned(t, 0), 0, -1);
-        CHECK.row("a HOLD of 7 stays", t -> Tape.plan("link 0 1 1 5;tunnel 0 1 3 3 3;tunnel 0 1 3 3 0;").planned(t, 0), -1, 0);
+        CHECK.row("what holds 7 is counted, too", t -> Tape.plan("link 0 1 1 5;tunnel 0 1 3 7 7;tunnel 0 1 3 7 7;").planned(t, 0), 0, -1);
+        CHECK.row("of like SETUPS the strongest HOLD stays", t -> Tape.plan("link 0 1 1 5;tunnel 0 1 3 3 3;tunnel 0 1 3 3 0;").planned(t, 0), -1, 0);
     }
 
     /** By the rules of the BEST WAY, by what is UP, by the BANDWIDTH that it has now, whoever stands. */
@@ -82,6 +83,50 @@ public final class EdgePlanTest {
         CHECK.row("7 has link 2 alone", t -> x.planned(t, 0), 2, 1);
         x.resize(0, 10);
         CHECK.row("10 has none", t -> x.planned(t, 0), -1, 1);
+    }
+
+    /** If none stood: none of those that stand is in the way of whoever is planned ahead of it. */
+    private static void ifNoneStood() {
+        for (int many = 1; many <= 8; many++) {
+            StringBuilder b = new StringBuilder("link 0 1 1 8;link 0 1 2 8;");
+            int[] links = new int[many + 1];
+            for (int t = 0; t < many; t++) {
+                b.append("tunnel 0 1 1 7 0;");
+            }
+            // The last one asks for all of a link, and is planned first.
+            b.append("tunnel 0 1 8 6 0;");
+            links[many] = 1;
+            TunnelPlan x = placed(b.toString(), links);
+            int last = many;
+            CHECK.row("planned with " + many, t -> x.planned(t == 0 ? last : t - 1, 0), 0, 1);
+        }
+        for (int first = 0; first <= 8; first++) {
+            // One asks for all of a link, and is planned first; who has some of it would be in its way.
+            StringBuilder b = new StringBuilder("link 0 1 1 8;link 0 1 2 8;");
+            int[] links = new int[9];
+            for (int t = 0; t <= 8; t++) {
+                b.append(t == first ? "tunnel 0 1 8 6 0;" : "tunnel 0 1 1 7 0;");
+                links[t] = t == first ? 1 : 0;
+            }
+            TunnelPlan x = placed(b.toString(), links);
+            int it = first;
+            CHECK.row("planned, first " + first, t -> x.planned(t, 0), java.util.stream.IntStream.range(0, 9).map(t -> t == it ? 0 : 1).toArray());
+            CHECK.row("none can be moved", x::order, -1);
+            CHECK.same("the one alone", x.toBreak(), 1 << first);
+        }
+    }
+
+    /** The first call on it, whatever was asked ahead. */
+    private static void askedAtOnce() {
+        String ring = "link 0 1 1 5;link 0 1 2 5;tunnel 0 1 5 1 1;tunnel 0 1 5 2 1;";
+        CHECK.same("planned", placed(ring, 1, 0).planned(1, 0), 1);
+        CHECK.same("order", placed(ring, 1).order(0), 0);
+        CHECK.same("to break", placed(ring, 1, 0).toBreak(), 1);
+        TunnelPlan x = placed(ring, 1, 0);
+        CHECK.same("to break", x.toBreak(), 1);
+        x.tearDown(1);
+        CHECK.same("nothing to break then", x.toBreak(), 0);
+        CHECK.row("the order then", x::order, 0, -1);
     }
 
     /** Who stands, has a way by the plan, and another one: no one else is to be moved. */
@@ -141,6 +186,16 @@ public final class EdgePlanTest {
         CHECK.same("2 alone, or 1 alone: the least as bits", y.toBreak(), 2);
     }
 
+    /** What the first one gave up, when it was tried, is taken again, when another one is tried ahead of it. */
+    private static void triedInVain() {
+        // 0 (on link 2) and 1 (on link 1) go to link 0, 3 (on link 0) to link 1, and 2 (on link 3) to link 2,
+        // which is too narrow for it beside 0.
+        TunnelPlan x = placed("link 0 1 1 4;link 0 1 2 3;link 0 1 3 3;link 0 1 4 9;"
+                + "tunnel 0 1 2 2 2;tunnel 0 1 2 1 1;tunnel 0 1 2 4 3;tunnel 0 1 2 3 3;", 2, 1, 3, 0);
+        CHECK.row("where they shall be", t -> x.planned(t, 0), 0, 0, 2, 1);
+        CHECK.row("2 must wait for 0", x::order, 1, 3, 0, 2, -1);
+    }
+
     private static void theFewestToBreak() {
         // Two rings of two: one of each, the least as bits.
         TunnelPlan x = placed("nodes 4;link 0 1 1 5;link 0 1 2 5;link 2 3 1 5;link 2 3 2 5;"
@@ -168,6 +223,18 @@ public final class EdgePlanTest {
         }
     }
 
+    /** The same, whichever number has the one that stays. */
+    private static void whoeverStays() {
+        for (int stays = 0; stays <= 1; stays++) {
+            String goes = "tunnel 0 1 3 1 1;";
+            String rests = "tunnel 0 1 3 5 1;";
+            TunnelPlan x = placed("link 0 1 1 5;link 0 1 2 5;" + (stays == 0 ? rests + goes : goes + rests) + "tunnel 0 1 3 2 2;", stays, 1 - stays);
+            CHECK.row("where they shall be", t -> x.planned(t, 0), stays == 0 ? -1 : 0, stays == 0 ? 0 : -1, 1);
+            CHECK.row("order", x::order, -1);
+            CHECK.same("to break", x.toBreak(), -1);
+        }
+    }
+
     /** All nine are moved. */
     private static void nine() {
         StringBuilder b = new StringBuilder("link 0 1 1 99;link 0 1 2 99;");
@@ -184,12 +251,16 @@ public final class EdgePlanTest {
         whoIsFirst();
         nonePushedOut();
         asItIsNow();
+        ifNoneStood();
+        askedAtOnce();
         whoIsToBeMoved();
         whileItTakesBothWays();
         theFirstRow();
         theFirstThatLeavesNoneStuck();
+        triedInVain();
         theFewestToBreak();
         tooMuchInTheEnd();
+        whoeverStays();
         nine();
         CHECK.end();
     }

@@ -242,6 +242,42 @@ public final class EdgeTextTest {
         bad("{link 0 1 1 1;", 1, 0);
     }
 
+    /** Each letter of each word counts. */
+    private static void letters() {
+        for (String text : new String[] {"nodes 3;", "link 0 1 1 1;", "tunnel 0 1 1 1 1;"}) {
+            good(text);
+            for (int i = 0; i < text.indexOf(' '); i++) {
+                for (char c : new char[] {'a', 'z', (char) (text.charAt(i) + 1), (char) (text.charAt(i) - 1)}) {
+                    bad(text.substring(0, i) + c + text.substring(i + 1), 1, 0);
+                }
+                bad(text.substring(0, i) + (char) (text.charAt(i) - 32) + text.substring(i + 1), 1, 0);
+                bad(text.substring(0, i) + text.substring(i + 1), 1, 0);
+            }
+        }
+    }
+
+    /** Each of 16 links and 9 tunnels is read as it is told, whatever was there. */
+    private static void eachOfThemIsRead() {
+        StringBuilder b = new StringBuilder("nodes 8;");
+        for (int i = 0; i < 16; i++) {
+            b.append("link ").append(i % 8).append(' ').append((i + 1 + i / 8) % 8).append(' ').append(84 + i).append(' ').append(99 - i).append(' ').append(i).append(';');
+        }
+        for (int i = 0; i < 9; i++) {
+            b.append("tunnel ").append((i + 7) % 8).append(' ').append((i + 5) % 8).append(' ').append(91 + i).append(' ');
+            b.append(Math.min(7, i)).append(' ').append(i / 2).append(' ').append(15 - i).append(' ').append(1 + i % 7).append(';');
+        }
+        TunnelPlan x = Tape.plan("nodes 3;" + "link 0 1 1 1 1;".repeat(16) + "tunnel 0 1 1 1 1 1;".repeat(9));
+        CHECK.same("network", Tape.load(x, b.toString()), 0);
+        for (int i = 0; i < 16; i++) {
+            int link = i;
+            CHECK.row("link " + i, k -> x.link(link, k), i % 8, (i + 1 + i / 8) % 8, 84 + i, 99 - i, i, 1, 0, 0);
+        }
+        for (int i = 0; i < 9; i++) {
+            int tunnel = i;
+            CHECK.row("tunnel " + i, k -> x.tunnel(tunnel, k), (i + 7) % 8, (i + 5) % 8, 91 + i, Math.min(7, i), i / 2, 15 - i, 1 + i % 7, 0);
+        }
+    }
+
     private static void digits() {
         good("nodes 0003;");
         bad("nodes 00003;", 2, 6);
@@ -488,6 +524,8 @@ public final class EdgeTextTest {
         eachByteBehindANumber();
         blanks();
         words();
+        letters();
+        eachOfThemIsRead();
         digits();
         endsTooSoon();
         endsByN();

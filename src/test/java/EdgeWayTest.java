@@ -221,6 +221,32 @@ public final class EdgeWayTest {
         CHECK.same("who was there is pushed out", z.setUp(2), 1);
     }
 
+    /** The rules from each node to each other one: metric, links, pools, the first by links. */
+    private static void fromEachToEach() {
+        for (int from = 0; from < 8; from++) {
+            for (int step = 1; step < 8; step++) {
+                int to = (from + step) % 8;
+                int a = (from + (step + 1) % 8 + (step == 7 ? 1 : 0)) % 8;
+                int b = (a + 1) % 8;
+                while (b == from || b == to || b == a) {
+                    b = (b + 1) % 8;
+                }
+                String nodes = "nodes 8;";
+                String byA = "link " + from + " " + a + " 3 9;link " + a + " " + to + " 2 4;";
+                String byB = "link " + from + " " + b + " 3 5;link " + b + " " + to + " 2 5;";
+                String tunnel = "tunnel " + from + " " + to + " 1 1 1;";
+                String what = "from " + from + " to " + to;
+                best("the widest " + what, Tape.plan(nodes + byA + byB + tunnel), 0, 2, 3);
+                best("the widest first " + what, Tape.plan(nodes + byB + byA + tunnel), 0, 0, 1);
+                best("like ones " + what, Tape.plan(nodes + byA + byA + tunnel), 0, 0, 1);
+                best("the fewest links " + what, Tape.plan(nodes + byA + byB + "link " + from + " " + to + " 5 1;" + tunnel), 0, 4);
+                best("the least metric " + what, Tape.plan(nodes + byA + byB + "link " + from + " " + to + " 6 99;" + tunnel), 0, 2, 3);
+                // The widest of all goes by its second link, where the first ones are alike.
+                best("at the second link " + what, Tape.plan(nodes + byA + "link " + a + " " + to + " 2 5;" + tunnel), 0, 0, 2);
+            }
+        }
+    }
+
     private static void theFirstByLinks() {
         // 0 then 3, against 1 then 2: the first link decides.
         best("the first link", Tape.plan("nodes 4;link 0 1 1 9;link 0 2 1 9;link 2 3 1 9;link 1 3 1 9;tunnel 0 3 1 1 1;"), 0, 0, 3);
@@ -281,6 +307,20 @@ public final class EdgeWayTest {
         // One of harm 3 against two of harm 1 and 1.
         TunnelPlan z = standing("link 0 1 1 4;tunnel 0 1 2 7 7;tunnel 0 1 2 7 5;tunnel 0 1 2 0 0;", 0, 1);
         CHECK.same("the least harm", z.pushes(2, 0), 1);
+    }
+
+    /** Not one whose HOLD is as strong as the SETUP, though its harm is less than that of all the others. */
+    private static void neverOneThatHoldsAsStrong() {
+        for (int strong = 0; strong <= 2; strong++) {
+            // Harm 6 of tunnel 'strong' by hold 2 alone, or 5 and 5 by holds 3 of the two others.
+            StringBuilder b = new StringBuilder("link 0 1 1 8;");
+            for (int t = 0; t <= 2; t++) {
+                b.append(t == strong ? "tunnel 0 1 4 3 2;" : "tunnel 0 1 2 3 3;");
+            }
+            TunnelPlan x = standing(b + "tunnel 0 1 4 2 2;tunnel 0 1 4 1 1;", 0, 1, 2);
+            CHECK.same("by SETUP 2 both others", x.pushes(3, 0), 7 - (1 << strong));
+            CHECK.same("by SETUP 1 it alone", x.pushes(4, 0), 1 << strong);
+        }
     }
 
     private static void theFewest() {
@@ -360,6 +400,25 @@ public final class EdgeWayTest {
         CHECK.row("where they are then", t -> t == 1 ? -1 : x.way(t, 0), 1, -1, 2, 0);
     }
 
+    /** All that wait have their turn: whoever finds a way stands, whether the one ahead found one or not. */
+    private static void allHaveTheirTurn() {
+        TunnelPlan x = standing("link 0 1 1 6;link 0 1 2 6;tunnel 0 1 2 5 5;tunnel 0 1 2 5 5;tunnel 0 1 2 5 5;tunnel 0 1 6 2 2;", 0, 1, 2);
+        CHECK.row("pushes", i -> x.pushes(3, i), 7, 0);
+        CHECK.same("three are pushed out", x.setUp(3), 3);
+        CHECK.row("all three find a way", t -> x.way(t, 0), 1, 1, 1, 0);
+        TunnelPlan y = standing("link 0 1 1 6;link 0 1 2 3;tunnel 0 1 4 5 5;tunnel 0 1 2 6 6;tunnel 0 1 6 2 2;", 0, 1);
+        CHECK.same("two are pushed out", y.setUp(2), 2);
+        CHECK.same("the first of them finds none, the second one does", y.count(3), 6);
+        // The first of them pushes out another one, and the second one has its turn still.
+        TunnelPlan z = standing("link 0 1 1 6;link 0 1 2 6;link 0 1 3 6;tunnel 0 1 6 5 5;tunnel 0 1 3 3 3;tunnel 0 1 3 4 4;tunnel 0 1 6 2 2;", 1, 2, 0);
+        CHECK.row("where they are", t -> z.way(t, 0), 1, 0, 0);
+        CHECK.same("three are pushed out by all", z.setUp(3), 3);
+        CHECK.row("where they are then", t -> z.way(t, 0), 2, 1, 1, 0);
+        TunnelPlan w = standing("link 0 1 1 6;link 0 1 2 6;tunnel 0 1 3 5 5;tunnel 0 1 3 4 4;", 0, 1);
+        CHECK.same("none is lost by a link's failing", w.fail(0), 0);
+        CHECK.row("both go to the other one", t -> w.way(t, 0), 1, 1);
+    }
+
     /** One that has no best way waits no more: it doesn't stand, and comes back by an act alone. */
     private static void whoFindsNone() {
         TunnelPlan x = standing("link 0 1 1 5;tunnel 0 1 5 7 7;tunnel 0 1 5 0 0;", 0);
@@ -404,11 +463,13 @@ public final class EdgeWayTest {
         theLeastMetric();
         theFewestLinks();
         theMostOfTheLeastPool();
+        fromEachToEach();
         theFirstByLinks();
         noBestWay();
         moreTakenThanCapacity();
         whoMayBePushedOut();
         theLeastHarm();
+        neverOneThatHoldsAsStrong();
         theFewest();
         theLeastBandwidth();
         theLeastAsBits();
@@ -416,6 +477,7 @@ public final class EdgeWayTest {
         whatItHadIsFreed();
         whoIsFirst();
         thoseByTheseToo();
+        allHaveTheirTurn();
         whoFindsNone();
         theLongestChain();
         CHECK.end();
