@@ -390,6 +390,63 @@ public final class EdgeActTest {
         CHECK.same("no more", x.undo(), -1);
     }
 
+    // ---- behind any acts
+
+    /** A ladder: from each node to the next one and to the one behind it, tunnels of all setups along it. */
+    private static String ladder(int run) {
+        StringBuilder b = new StringBuilder("nodes 6;");
+        for (int i = 0; i < 5; i++) {
+            b.append("link ").append(i).append(' ').append(i + 1).append(" 1 ").append(4 + (run + i) % 4).append(';');
+            b.append("link ").append(i).append(' ').append(i + 1).append(" 2 ").append(3 + (run * 3 + i) % 5).append(';');
+            b.append("link ").append(i).append(' ').append(Math.max(i + 1, i + 2 - i / 4)).append(" 2 ").append(2 + (run / 4 + i) % 6).append(';');
+        }
+        for (int t = 0; t < 9; t++) {
+            int setup = (t * 5 + run) % 8;
+            b.append("tunnel ").append(t % 3).append(' ').append(5 - t / 3 % 2).append(' ').append(1 + (t + run) % 4).append(' ');
+            b.append(setup).append(' ').append(setup - setup * (t % 2) / 2).append(';');
+        }
+        return b.toString();
+    }
+
+    /** No POOL is below 0, none at a weaker priority is more; what is taken is what those on it ask for. */
+    private static void sound(String what, TunnelPlan x) {
+        for (int link = 0; link < 15; link++) {
+            int sum = 0;
+            for (int t = 0; t < 9; t++) {
+                sum += (x.link(link, 7) >> t & 1) * x.tunnel(t, 2);
+            }
+            CHECK.same(what + ": taken of " + link, x.link(link, 6), sum);
+            CHECK.same(what + ": pool of " + link + " at 7", x.pool(link, 7), x.link(link, 3) - sum);
+            CHECK.yes(what + ": pool of " + link + " isn't below 0", x.pool(link, 7) >= 0);
+        }
+    }
+
+    /** Setups, resizings, failings .. drawn by a seed; within 512 calls, as sound asks a lot. */
+    private static void noLinkIsOverbooked() {
+        int s = 99;
+        for (int run = 0; run < 400; run++) {
+            TunnelPlan x = Tape.plan(ladder(run));
+            CHECK.same("links", x.count(1), 15);
+            for (int act = 0; act < 30; act++) {
+                s = s * 1103515245 + 12345;
+                int t = (s >>> 16) % 9;
+                int kind = (s >>> 24) % 8;
+                if (kind < 4) {
+                    x.setUp(t);
+                } else if (kind == 4) {
+                    x.resize(t, 1 + (s >>> 12) % 6);
+                } else if (kind == 5) {
+                    x.fail((s >>> 12) % 15);
+                } else if (kind == 6) {
+                    x.mend((s >>> 12) % 15);
+                } else {
+                    x.move(t);
+                }
+            }
+            sound("run " + run, x);
+        }
+    }
+
     // ---- STATUS, and how many calls
 
     private static void statusByKinds() {
@@ -450,6 +507,7 @@ public final class EdgeActTest {
         whatIsInIt();
         inPlaceOfAnother();
         aFullImage();
+        noLinkIsOverbooked();
         statusByKinds();
         fiveHundredAndTwelveCalls();
         CHECK.end();

@@ -347,6 +347,10 @@ public final class EdgeAskTest {
             }
             CHECK.same("the shortest and the longest " + turn, Tape.plan(b + "tunnel 0 3 1 1 1;").apart(0), 13);
         }
+        // The same, where the longest one ends by link 0.
+        CHECK.same("link 0 in the longest", Tape.plan("nodes 5;link 4 3 5 1;link 0 1 1 1;link 1 2 1 1;link 2 3 1 1;link 1 3 6 1;link 0 2 6 1;link 0 4 5 1;"
+                + "tunnel 0 3 1 1 1;").apart(0), 13);
+        CHECK.same("one hop, and link 0 is none of both", Tape.plan("link 1 0 1 1;link 0 1 1 1;link 0 1 2 1;tunnel 0 1 1 1 1 0 1;").apart(0), 3);
         // Seven links and one: with seven hops alone.
         CHECK.same("seven hops", Tape.plan(CHAIN + "link 0 7 99 1;tunnel 0 7 1 1 1;").apart(0), 792);
         CHECK.same("six hops", Tape.plan(CHAIN + "link 0 7 99 1;tunnel 0 7 1 1 1 0 6;").apart(0), -1);

@@ -200,6 +200,17 @@ public final class EdgeChanceTest {
         }
     }
 
+    /** A link that is on no way may have any capacity, be the way of seven links. */
+    private static void offAWayOfSeven() {
+        StringBuilder b = new StringBuilder("nodes 8;");
+        for (int i = 0; i < 7; i++) {
+            b.append("link ").append(i).append(' ').append(i + 1).append(" 1 9;");
+        }
+        TunnelPlan x = Tape.plan(b + "link 7 0 1 1;");
+        x.see(0, 7, 5, 0, true);
+        CHECK.row("5 to 20 of seven, but for 9, 2 to 20 of the eighth", x::other, 7 * 15 + 19, 5, 1);
+    }
+
     /** A link that isn't UP helps none, and harms none. */
     private static void ofLinksThatArentUp() {
         TunnelPlan x = Tape.plan("link 0 1 1 5;link 1 0 1 5;");
@@ -405,6 +416,7 @@ public final class EdgeChanceTest {
         byHowItIsSeen();
         byOneLinkAlone();
         sevenHops();
+        offAWayOfSeven();
         ofLinksThatArentUp();
         byTenths();
         theFirstEight();
