@@ -85,6 +85,16 @@ public final class EdgePlanTest {
         CHECK.row("10 has none", t -> x.planned(t, 0), -1, 1);
     }
 
+    /** Each by what is planned ahead of it: what comes behind changes no way, though another one would be wider then. */
+    private static void whatComesBehind() {
+        TunnelPlan x = Tape.plan("link 0 1 1 5;link 0 1 1 5 1;tunnel 0 1 1 1 1;tunnel 0 1 1 2 2 1;tunnel 0 1 1 3 3 1;");
+        CHECK.row("the first stays", t -> x.planned(t, 0), 0, 0, 0);
+        x.setUp(1);
+        x.setUp(2);
+        CHECK.same("now link 1 is wider for it", x.best(0, 0), 1);
+        CHECK.row("whoever stands", t -> x.planned(t, 0), 0, 0, 0);
+    }
+
     /** If none stood: none of those that stand is in the way of whoever is planned ahead of it. */
     private static void ifNoneStood() {
         for (int many = 1; many <= 8; many++) {
@@ -251,6 +261,7 @@ public final class EdgePlanTest {
         whoIsFirst();
         nonePushedOut();
         asItIsNow();
+        whatComesBehind();
         ifNoneStood();
         askedAtOnce();
         whoIsToBeMoved();
