@@ -358,6 +358,26 @@ public final class EdgeAskTest {
         CHECK.noSuch("tunnel -1", () -> x.apart(-1));
     }
 
+    /** No NODE twice: round a ring it comes back, at the first node, on the way, or at the last one, whatever their numbers. */
+    private static void apartBesideRings() {
+        int[][] numbers = {{0, 1, 2, 3}, {3, 2, 1, 0}, {0, 2, 4, 6}, {7, 5, 3, 1}, {4, 7, 0, 2}};
+        int[][] rings = {{1, 0}, {2, 1, 1, 2}, {3, 2}, {2, 0, 3, 1, 3, 0}};
+        for (int[] n : numbers) {
+            for (int[] ring : rings) {
+                StringBuilder b = new StringBuilder("nodes 8;");
+                for (int i = 0; i < 3; i++) {
+                    b.append("link ").append(n[i]).append(' ').append(n[i + 1]).append(" 1 1;");
+                }
+                for (int i = 0; i < ring.length; i += 2) {
+                    b.append("link ").append(n[ring[i]]).append(' ').append(n[ring[i + 1]]).append(" 1 1;");
+                }
+                String tunnel = "tunnel " + n[0] + " " + n[3] + " 1 1 1;";
+                CHECK.same("one way, and " + b, Tape.plan(b + tunnel).apart(0), -1);
+                CHECK.same("two ways, and " + b, Tape.plan(b + "link " + n[0] + " " + n[3] + " 50 1;" + tunnel).apart(0), 53);
+            }
+        }
+    }
+
     private static void room() {
         CHECK.same("99", Tape.plan("link 0 1 1 99;tunnel 0 1 1 1 1;").room(0), 99);
         CHECK.same("1", Tape.plan("link 0 1 1 1;tunnel 0 1 99 1 1;").room(0), 1);
@@ -420,6 +440,7 @@ public final class EdgeAskTest {
         distance();
         cuts();
         apart();
+        apartBesideRings();
         room();
         saved();
         CHECK.end();
